@@ -529,8 +529,9 @@ public final class SeamCell {
         final Pace pace;
         final int[] quarter = new int[MOST_SEARCHED], time = new int[MOST_SEARCHED];
         final int[] rest = new int[MOST_SEARCHED], nearMask = new int[MOST_SEARCHED];
-        // The least that a seam adds to the end of any row in which it is not the first.
-        final int[] cost = new int[MOST_SEARCHED];
+        // The least from the end of any other seam to the begin of this one, and from the end of
+        // this one to the begin of any other, if one comes right behind the other.
+        final int[] leastAhead = new int[MOST_SEARCHED], leastBehind = new int[MOST_SEARCHED];
         final int[] cooled = new int[MOST_SEARCHED];
         final int[][] move = new int[STEPS + 1][STEPS];
         final int[] steps = new int[MOST_SEARCHED], found = new int[MOST_SEARCHED];
@@ -546,9 +547,9 @@ public final class SeamCell {
             count = Math.min(part.count, MOST_SEARCHED);
             noteSeams();
             noteMoves();
-            int left = noteCosts();
+            noteLeasts();
             foundEnd = Integer.MAX_VALUE;
-            extend(this, 0, 0, left, 0);
+            extend(this, 0, 0, 0);
         }
 
         private void noteSeams() {
@@ -580,34 +581,43 @@ public final class SeamCell {
             }
         }
 
-        private int noteCosts() {
-            int sum = 0;
+        private void noteLeasts() {
             for (int s = 0; s < count; s++) {
-                cost[s] = time[s] + leastWait(s);
-                sum += cost[s];
+                leastAhead[s] = Integer.MAX_VALUE;
+                leastBehind[s] = Integer.MAX_VALUE;
             }
-            return sum;
+            for (int from = 0; from < 2 * count; from++) {
+                for (int to = 0; to < 2 * count; to++) {
+                    int ahead = from / 2, behind = to / 2;
+                    if (ahead == behind) continue;
+                    int between = move[from][to];
+                    if (areNear(ahead, behind)) between = Math.max(between, rest[ahead]);
+                    leastAhead[behind] = Math.min(leastAhead[behind], between);
+                    leastBehind[ahead] = Math.min(leastBehind[ahead], between);
+                }
+            }
         }
 
-        /** The least between the end of another seam right ahead of s and the begin of s. */
-        private int leastWait(int s) {
-            int least = Integer.MAX_VALUE;
-            for (int from = 0; from < 2 * count; from++) {
-                int other = from / 2;
-                if (other == s) continue;
-                int wait = Math.min(move[from][2 * s], move[from][2 * s + 1]);
-                if (areNear(s, other)) wait = Math.max(wait, rest[other]);
-                least = Math.min(least, wait);
+        /** The least that all seams not in used add to a row that ends with seam last. */
+        private int leastLeft(int last, int used) {
+            if (used == (1 << count) - 1) return 0;
+            int byAhead = 0, byBehind = leastBehind[last], most = 0;
+            for (int s = 0; s < count; s++) {
+                if ((used >> s & 1) != 0) continue;
+                byAhead += time[s] + leastAhead[s];
+                byBehind += time[s] + leastBehind[s];
+                most = Math.max(most, leastBehind[s]);
             }
-            return least == Integer.MAX_VALUE ? 0 : least;
+            // One of them will be the row's last, and nothing comes behind that one.
+            return Math.max(byAhead, byBehind - most);
         }
 
         private boolean areNear(int s, int other) {
             return (nearMask[s] >> other & 1) != 0;
         }
 
-        /** Tries every step behind the first depth ones; left: the costs of the seams not in used. */
-        private static void extend(Search it, int depth, int clock, int left, int used) {
+        /** Tries every step behind the first depth ones, whose seams are the bits of used. */
+        private static void extend(Search it, int depth, int clock, int used) {
             if (depth >= it.count || depth >= MOST_SEARCHED) {
                 it.keep(clock);
                 return;
@@ -616,14 +626,14 @@ public final class SeamCell {
             for (int to = 0; to < 2 * it.count; to++) {
                 int s = to / 2;
                 if ((used >> s & 1) != 0) continue;
+                int then = used | 1 << s;
                 int begin = Math.max(clock + it.move[from][to], it.cooledFor(s, depth));
                 int end = begin + it.time[s];
-                int leftThen = left - it.cost[s];
                 // Rows from here on come later in order: they would have to be truly better.
-                if (end + leftThen >= it.foundEnd) continue;
+                if (end + it.leastLeft(s, then) >= it.foundEnd) continue;
                 it.steps[depth] = to;
                 it.cooled[s] = end + it.rest[s];
-                extend(it, depth + 1, end, leftThen, used | 1 << s);
+                extend(it, depth + 1, end, then);
             }
         }
 

@@ -57,6 +57,49 @@ public final class CellTest {
         due.is(62, x.row(1, 2), "row(1, 2)");
         due.is(37, x.row(1, 4), "row(1, 4)");
         due.is(63, x.total(), "total()");
+        firstReach();
+        firstTimes();
+    }
+
+    private static void firstReach() {
+        SeamCell x = new SeamCell();
+        x.seam(0, 50, 10, 50, 1, 0);
+        x.seam(0, 49, 10, 49, 1, 0);
+        x.seam(80, 10, 70, 10, 1, 0);
+        x.seam(80, 11, 70, 11, 1, 0);
+        x.seam(-100, -100, 100, 100, 1, 0);
+        x.seam(-100, -100, 99, 100, 1, 0);
+        due.is(0, x.lacks(0, 0), "lacks(0, 0): 50 is just within");
+        due.is(1, x.lacks(1, 0), "lacks(1, 0): 49 is not");
+        due.is(0, x.lacks(4, 0) & 4, "lacks(4, 0): 100 in 100");
+        due.is(4, x.lacks(5, 0) & 4, "lacks(5, 0): a bit steeper");
+        x.table(200, 200);
+        due.is(0, x.lacks(2, 0), "lacks(2, 0): 280, 210 is just within");
+        due.is(1, x.lacks(3, 0), "lacks(3, 0): 280, 211 is not");
+    }
+
+    private static void firstTimes() {
+        SeamCell x = new SeamCell();
+        x.table(0, 150);
+        x.seam(20, 0, 20, 1, 1, 0);
+        x.add(0, 1);
+        due.is(10 + 7, x.row(0, 2), "row(0, 2): a quarter, then 130 up by 20");
+        x.bar(-400, 200, 400, 201);
+        due.is(10 + 7 + 10, x.row(0, 2), "row(0, 2): twice 5 more");
+        x.clear(1);
+        x.clear(4);
+        x.seam(-100, -50, -90, -50, 1, 0);
+        x.table(-200, 200);
+        x.add(1, 0);
+        due.is(15, x.row(0, 2), "row(0, 2): 300 from home x to -300, by 20");
+        x.clear(4);
+        x.add(1, 1);
+        due.is(15, x.row(0, 2), "row(0, 2): 290 from home x to -290, up by 20");
+        x.table(200, 200);
+        x.seam(80, 5, 70, 5, 1, 0);
+        x.clear(4);
+        x.add(2, 0);
+        due.is(14, x.row(0, 2), "row(0, 2): 280 from home x to 280, by 20");
     }
 
     private static void table() {
@@ -326,6 +369,12 @@ public final class CellTest {
         due.is(0, x.lacks(2, 0), "lacks: the nearest place is an end");
         due.is(1, x.lacks(3, 0), "lacks: one end is too near");
         due.is(1, x.lacks(4, 0), "lacks: slanting through the inner circle");
+        x.seam(60, 32, 24, 32, 1, 0);
+        x.seam(24, 32, 60, 32, 1, 0);
+        x.seam(60, 32, 23, 32, 1, 0);
+        due.is(0, x.lacks(5, 0), "lacks: the last end is just within");
+        due.is(0, x.lacks(6, 0), "lacks: the first end is just within");
+        due.is(1, x.lacks(7, 0), "lacks: the last end is too near");
         x.arm(60, 25);
         due.is(0, x.lacks(4, 0), "lacks: 1250 is not below 35 times 35");
         x.arm(60, 60);
@@ -383,11 +432,13 @@ public final class CellTest {
         x.bar(0, 0, 10, 20);
         int[][] blocked = {{5, 5, 5, 5}, {-5, 10, 15, 10}, {5, -5, 5, 30}, {-1, 10, 1, 10},
             {2, 2, 3, 3}, {0, 0, 10, 20}, {10, 20, 0, 0}, {0, 20, 10, 0}, {0, 5, 10, 5},
-            {-1, 1, 1, 2}, {-1000, -999, 1000, 1000}, {10, 20, 9, 19}, {0, 10, 1, 10}};
+            {-1, 1, 1, 2}, {-1000, -999, 1000, 1000}, {10, 20, 9, 19}, {0, 10, 1, 10},
+            {-1, 18, 2, 23}, {2, 23, -1, 18}};
         for (int[] b : blocked) due.is(0, x.free(b[0], b[1], b[2], b[3]), "free " + text(b));
         int[][] open = {{0, 0, 0, 0}, {0, 5, 0, 5}, {0, -5, 0, 30}, {10, -5, 10, 30}, {-5, 0, 15, 0},
             {-5, 20, 15, 20}, {-1, 1, 1, -1}, {-5, 5, 0, 5}, {10, 5, 15, 5}, {11, 0, 11, 20},
-            {0, 0, 0, 20}, {-10, 10, 10, 30}, {20, 10, 0, -10}, {-1000, 0, 1000, -1}};
+            {0, 0, 0, 20}, {-10, 10, 10, 30}, {20, 10, 0, -10}, {-1000, 0, 1000, -1},
+            {-1, 19, 1, 22}, {1, 22, -1, 19}};
         for (int[] o : open) due.is(1, x.free(o[0], o[1], o[2], o[3]), "free " + text(o));
         int[][] wrong = {{-1001, 0, 0, 0}, {0, 1001, 0, 0}, {0, 0, 1001, 0}, {0, 0, 0, -1001},
             {MIN, MIN, MAX, MAX}};

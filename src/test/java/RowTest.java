@@ -12,6 +12,8 @@ public final class RowTest {
         total();
         best();
         bestOfSeveral();
+        bestOfHot();
+        bestOfQuarters();
         bestRefused();
         due.end();
     }
@@ -232,6 +234,52 @@ public final class RowTest {
         due.is(1, y.row(0, 0), "row(0, 0)");
         due.is(1, y.row(0, 1), "row(0, 1)");
         due.is(1, y.row(1, 1), "row(1, 1)");
+    }
+
+    /** Two seams that meet: a third one is done while the first of them cools. */
+    private static void bestOfHot() {
+        SeamCell x = new SeamCell();
+        x.table(0, 200);
+        x.times(0, 1, 0, 1);
+        x.rules(100, 0);
+        x.home(-10, 200);
+        x.seam(-10, 0, 0, 0, 10, 100);
+        x.seam(0, 0, 10, 0, 10, 100);
+        x.seam(30, 0, 80, 0, 1, 0);
+        due.is(1 + 30 + 50 + 70 + 1, x.best(), "best()");
+        order(x, new int[][] {{0, 0, 0, 1, 0}, {2, 0, 31, 81, 0}, {1, 1, 151, 152, 0}});
+        x.clear(0);
+        x.seam(-10, 0, 0, 0, 10, 40);
+        x.seam(0, 0, 10, 0, 10, 1000);
+        due.is(1 + 40 + 1, x.best(), "best(): the less hot one first");
+        order(x, new int[][] {{0, 0, 0, 1, 0}, {1, 0, 41, 42, 40}});
+        x.home(10, 200);
+        due.is(10 + 1 + 40 + 1, x.best(), "best(): from the other end");
+        order(x, new int[][] {{0, 1, 10, 11, 0}, {1, 0, 51, 52, 30}});
+    }
+
+    private static void bestOfQuarters() {
+        SeamCell x = new SeamCell();
+        x.table(0, 200);
+        x.times(50, 100, 0, 1);
+        x.rules(0, 0);
+        x.home(0, 200);
+        x.seam(0, 10, 0, 20, 10, 0);
+        x.seam(10, 0, 20, 0, 10, 0);
+        x.seam(5, 40, 5, 50, 10, 0);
+        x.seam(30, 0, 40, 0, 10, 0);
+        due.is(4 * 2 + 50, x.best(), "best(): one turn is enough");
+        int[] want = {1, 3, 0, 2};
+        for (int k = 0; k < 4; k++) due.is(want[k], x.row(k, 0), "row(" + k + ", 0)");
+    }
+
+    private static void order(SeamCell x, int[][] want) {
+        due.is(want.length, x.told(5), "told(5)");
+        for (int k = 0; k < want.length; k++) {
+            for (int what = 0; what < 5; what++) {
+                due.is(want[k][what], x.row(k, what), "row(" + k + ", " + what + ")");
+            }
+        }
     }
 
     private static void bestRefused() {

@@ -33,6 +33,8 @@ public final class TouchTest {
         due.is(5, x.touch(0, 100, 100, 0), "touch");
         due.is(0, x.shut(0, 0), "shut(0, 0)");
         due.is(0, x.shut(0, 1), "shut(0, 1)");
+        due.is(SeamCell.NO, x.touch(0, 0, 200, 50), "touch: m is as great as may be");
+        due.is(SeamCell.NO, x.touch(0, 0, -200, 50), "touch: m is as small as may be");
     }
 
     private static void touchRefused() {
