@@ -33,7 +33,23 @@ public final class ModelTest {
         long wrongToo = LongStream.range(0, (long) times * SEARCHES).parallel()
             .filter(seed -> !new ModelTest(seed).drawnSearch((int) (seed % 6) + 1)).count();
         System.out.println(times * SEARCHES + " searches, " + wrongToo + " of them not as due");
-        if (wrong + wrongToo != 0) System.exit(1);
+        long wrongLines = LongStream.range(0, 11 * 11).filter(at -> !everyLine((int) at / 11, (int) at % 11)).count();
+        System.out.println(11 * 11 + " places with every line from them, " + wrongLines + " of them not as due");
+        if (wrong + wrongToo + wrongLines != 0) System.exit(1);
+    }
+
+    /** Lines from one place to all about a bar and about the arm's inner reach. */
+    private static boolean everyLine(int x, int y) {
+        ModelTest test = new ModelTest(0);
+        test.ask("bar", 3, 4, 8, 6);
+        test.ask("arm", 10, 14);
+        for (int to = 0; to < 11 * 11; to++) {
+            test.ask("free", x, y, to / 11, to % 11);
+            test.ask("clear", 0);
+            test.ask("seam", x - 5, y - 5, to / 11 - 5, to % 11 - 5, 1, 0);
+            test.ask("lacks", 0, to % 4);
+        }
+        return test.alike;
     }
 
     private boolean drawnCalls() {
