@@ -354,6 +354,7 @@ public final class ArmsEdgesTest {
         due.says(26, "NONE. (i = -1: how many.)");
         SeamCell x = with(new int[][] {{ENTER, 0}}, new int[][] {{ENTER, 0}});
         for (int i : new int[] {2, 3, 289, Due.MAX, -2, Due.MIN}) due.is(NONE, x.lock(i), "lock(" + i + ")");
+        due.is(2, with(new int[][] {{ENTER, 0}}, new int[][] {{ENTER, 0}}).lock(-1), "lock(-1) ahead of all others");
         due.says(26, "LOCK i, as the ACTS are now");
         x.act(0, LEAVE, 0);
         due.is(1, x.lock(0), "lock(0) behind an act more");
