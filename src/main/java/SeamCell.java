@@ -524,6 +524,8 @@ public final class SeamCell {
      */
     private static final class Search {
         private static final int STEPS = 2 * MOST_SEARCHED, HOME = STEPS;
+        // Far behind the end of any row: six seams take some 10,000 ticks at most.
+        private static final int NEVER = 1000000;
 
         final Part part;
         final Pace pace;
@@ -548,7 +550,7 @@ public final class SeamCell {
             noteSeams();
             noteMoves();
             noteLeasts();
-            foundEnd = Integer.MAX_VALUE;
+            foundEnd = NEVER;
             extend(this, 0, 0, 0);
         }
 
@@ -583,8 +585,8 @@ public final class SeamCell {
 
         private void noteLeasts() {
             for (int s = 0; s < count; s++) {
-                leastAhead[s] = Integer.MAX_VALUE;
-                leastBehind[s] = Integer.MAX_VALUE;
+                leastAhead[s] = NEVER;
+                leastBehind[s] = NEVER;
             }
             for (int from = 0; from < 2 * count; from++) {
                 for (int to = 0; to < 2 * count; to++) {

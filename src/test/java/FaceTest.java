@@ -8,6 +8,7 @@ import java.nio.file.Path;
 import java.util.ArrayList;
 import java.util.Arrays;
 import java.util.List;
+import java.util.Map;
 import java.util.TreeMap;
 import java.util.TreeSet;
 import java.util.regex.Matcher;
@@ -108,7 +109,20 @@ public final class FaceTest {
         while (imports.find()) {
             due.holds(List.of("java.util.Arrays").contains(imports.group(1)), "imports " + imports.group(1));
         }
+        library(code);
         lengths(code.split("\n"));
+        TreeMap<String, String> bodies = bodies(code.split("\n"));
+        makesNothing(bodies);
+        depths(bodies);
+    }
+
+    /** Rule 4: only what stands there, so neither a constant of Integer nor any other class. */
+    private static void library(String code) {
+        TreeSet<String> used = new TreeSet<>();
+        Matcher matcher = Pattern.compile("(?<![.\\w])([A-Z][a-z]\\w*\\.\\w+)").matcher(code);
+        while (matcher.find()) used.add(matcher.group(1));
+        TreeSet<String> listed = new TreeSet<>(List.of("Math.abs", "Math.max", "Math.min", "Arrays.fill"));
+        for (String each : used) due.holds(listed.contains(each), "rule 4 has no " + each);
     }
 
     /** A method opens behind 4 or 8 spaces and is shut by a brace behind as many. */
@@ -116,9 +130,61 @@ public final class FaceTest {
         for (int from = 0; from < lines.length; from++) {
             Matcher opens = Pattern.compile("^( {4}| {8})(?! )(?!.*\\bclass\\b).*\\) \\{$").matcher(lines[from]);
             if (!opens.find()) continue;
-            int to = from;
-            while (to < lines.length && !lines[to].equals(opens.group(1) + "}")) to++;
-            due.holds(to - from < 60, "too long: " + lines[from].trim());
+            due.holds(shut(lines, from, opens.group(1)) - from < 60, "too long: " + lines[from].trim());
         }
+    }
+
+    private static int shut(String[] lines, int from, String indent) {
+        int to = from;
+        while (to < lines.length && !lines[to].equals(indent + "}")) to++;
+        return to;
+    }
+
+    /** What stands in all methods and constructors that bear a name. */
+    private static TreeMap<String, String> bodies(String[] lines) {
+        TreeMap<String, String> bodies = new TreeMap<>();
+        Pattern opening = Pattern.compile("^( {4}| {8})(?:[\\w\\[\\]]+ )*(\\w+)\\([^()]*\\) \\{$");
+        for (int from = 0; from < lines.length; from++) {
+            Matcher opens = opening.matcher(lines[from]);
+            if (!opens.find()) continue;
+            int to = shut(lines, from, opens.group(1));
+            String body = String.join("\n", Arrays.copyOfRange(lines, from + 1, to));
+            bodies.merge(opens.group(2), body, (one, other) -> one + "\n" + other);
+        }
+        for (Method method : SeamCell.class.getDeclaredMethods()) {
+            due.holds(method.isSynthetic() || bodies.containsKey(method.getName()), "not found: " + method);
+        }
+        return bodies;
+    }
+
+    /** All is made in constructors, so that the calls of a long run make no object more. */
+    private static void makesNothing(Map<String, String> bodies) {
+        for (Map.Entry<String, String> each : bodies.entrySet()) {
+            boolean isConstructor = Character.isUpperCase(each.getKey().charAt(0));
+            boolean makes = Pattern.compile("\\bnew\\b|\\.clone\\(|copyOf").matcher(each.getValue()).find();
+            due.holds(isConstructor || !makes, "makes an object: " + each.getKey());
+        }
+    }
+
+    /** Rule 11: calls that are no recursion go at most eight deep. */
+    private static void depths(Map<String, String> bodies) {
+        for (String name : bodies.keySet()) {
+            int depth = deepest(bodies, name, new ArrayList<>());
+            due.holds(depth <= 8, name + " goes " + depth + " deep");
+        }
+    }
+
+    /** How many calls stand open at most, this one counted; what calls itself counts once. */
+    private static int deepest(Map<String, String> bodies, String name, List<String> open) {
+        due.holds(!open.contains(name), "a ring of calls: " + open + " " + name);
+        if (open.contains(name)) return 0;
+        open.add(name);
+        int below = bodies.get(name).contains("Math.") || bodies.get(name).contains("Arrays.") ? 1 : 0;
+        for (String other : bodies.keySet()) {
+            boolean calls = Pattern.compile("\\b" + other + "\\(").matcher(bodies.get(name)).find();
+            if (calls && !other.equals(name)) below = Math.max(below, deepest(bodies, other, open));
+        }
+        open.remove(name);
+        return below + 1;
     }
 }
